@@ -774,7 +774,7 @@ public final class VillageFeud {
                 setTie(household, size - 1, 0);
             }
             int lower = (1 << gone) - 1;
-            sideOne = sideOne & lower | sideOne >> 1 & ~lower;
+            sideOne = (sideOne & lower) | (sideOne >> 1 & ~lower);
             size--;
             went++;
             return size;
@@ -809,7 +809,7 @@ public final class VillageFeud {
         void moveTo(int household, int side) {
             if (has(household)) {
                 int others = sideOne & ~(1 << household);
-                sideOne = side == 1 ? others | 1 << household : others;
+                sideOne = side == 1 ? others | (1 << household) : others;
             }
         }
 
@@ -1155,24 +1155,21 @@ public final class VillageFeud {
         }
 
         private boolean findsPath(int source, int goal) {
-            for (int household = 0; household < cameFrom.length; household++) {
-                cameFrom[household] = -1;
-            }
-            int met = 1 << source;
+            int reached = 1 << source;
             int waiting = 1;
             queue[0] = source;
             for (int turn = 0; turn < waiting && turn < queue.length; turn++) {
                 int from = queue[turn];
                 for (int to = 0; to < MOST_HOUSEHOLDS; to++) {
-                    if (!isIn(met, to) && roomOn(from, to) > 0 && waiting < queue.length) {
-                        met |= 1 << to;
+                    if (!isIn(reached, to) && roomOn(from, to) > 0 && waiting < queue.length) {
+                        reached |= 1 << to;
                         cameFrom[to] = from;
                         queue[waiting] = to;
                         waiting++;
                     }
                 }
             }
-            return isIn(met, goal);
+            return isIn(reached, goal);
         }
 
         private int narrowest(int source, int goal) {
@@ -1398,15 +1395,14 @@ public final class VillageFeud {
         }
 
         private boolean takesDigits(int most) {
+            int start = position;
             int value = 0;
-            int digits = 0;
-            for (int digit = nextDigit(); digit >= 0 && digits < most; digit = nextDigit()) {
-                value = 10 * value + digit;
-                digits++;
+            for (int digits = 0; digits < most && nextDigit() >= 0; digits++) {
+                value = 10 * value + nextDigit();
                 position++;
             }
             int at = orderCount * NUMBERS + numberCount;
-            if (digits == 0 || at < 0 || at >= numbers.length) {
+            if (position == start || at < 0 || at >= numbers.length) {
                 return false;
             }
             numbers[at] = value;

@@ -44,8 +44,8 @@ public final class FeudsTest {
                 + "23=2 24=2 25=2 34=10 35=9 45=9");
         areBetween(Villages.of(3, "01=9"), "01=9 02=0 12=0");
         areBetween(Villages.of(4, "01=10 02=1 12=9 13=2 23=11"), "03=11 01=11 23=13");
-        // the shortest path takes the bond 12, and the second one has to go it back
-        areBetween(Villages.of(8, "01=1 12=1 23=1 04=1 45=1 25=1 16=1 67=1 37=1"), "03=2");
+        // the shortest path goes from 1 to 2, and the longer ones go back there, twice as much
+        areBetween(Villages.of(8, "01=1 12=1 23=1 04=2 45=2 25=2 16=2 67=2 37=2"), "03=3");
         VillageFeud married = Villages.of(4, "02=99 12=98 23=97 13=96");
         married.marry(0, 1);
         areBetween(married, "01=293 02=193 12=193");
