@@ -12,6 +12,7 @@ public final class VillageFeud {
     private static final int MOST_DIVISIONS = 1 << (MOST_HOUSEHOLDS - 1);
     private static final int MOST_WEIGHT = 99;
     private static final int MOST_CHANGES = 8;
+    private static final int ABOVE_ALL_FEUDS = 2147483647;
     private static final int LONGEST_TEXT = 60;
     private static final int SHORTEST_ORDER = 4;
     private static final int MOST_ORDERS = LONGEST_TEXT / SHORTEST_ORDER;
@@ -644,7 +645,7 @@ public final class VillageFeud {
             case 2:
                 return village.tieToSet(household, village.otherSide(household));
             default:
-                return household == 0 ? Integer.MIN_VALUE : -divisions.leastApart(0, household);
+                return household == 0 ? -ABOVE_ALL_FEUDS : -divisions.leastApart(0, household);
         }
     }
 
@@ -1101,7 +1102,7 @@ public final class VillageFeud {
         }
 
         int leastFeud() {
-            int least = Integer.MAX_VALUE;
+            int least = ABOVE_ALL_FEUDS;
             for (int side = 1; side < count && side < feuds.length; side++) {
                 least = Math.min(least, feuds[side]);
             }
@@ -1120,7 +1121,7 @@ public final class VillageFeud {
         }
 
         int leastApart(int one, int other) {
-            int least = Integer.MAX_VALUE;
+            int least = ABOVE_ALL_FEUDS;
             for (int side = 1; side < count && side < feuds.length; side++) {
                 if (isIn(side, one) != isIn(side, other)) {
                     least = Math.min(least, feuds[side]);
@@ -1173,7 +1174,7 @@ public final class VillageFeud {
         }
 
         private int narrowest(int source, int goal) {
-            int least = Integer.MAX_VALUE;
+            int least = ABOVE_ALL_FEUDS;
             int to = goal;
             for (int step = 0; step < MOST_HOUSEHOLDS && to != source; step++) {
                 int from = stepBack(to);

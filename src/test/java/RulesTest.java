@@ -179,6 +179,15 @@ public final class RulesTest {
             return super.visitMethodInvocation(tree, nothing);
         }
 
+        /** LANGUAGE.md lists functions of the library alone, and the compiler copies its constants. */
+        @Override
+        public Void visitMemberSelect(MemberSelectTree tree, Void nothing) {
+            if (tree.getIdentifier().toString().matches("[A-Z_]+")) {
+                fault(tree, "a constant of another class");
+            }
+            return super.visitMemberSelect(tree, nothing);
+        }
+
         @Override
         public Void visitCatch(CatchTree tree, Void nothing) {
             fault(tree, "a catch");
