@@ -20,6 +20,9 @@ public final class AccountsTest {
         x.undo();
         x.undo();
         Due.is("7 4 26 2 2 7 0 0 2 2 6", () -> Villages.accounts(x));
+        VillageFeud light = Villages.of(2, "01=1");
+        light.part();
+        Due.is("2 1 1 1 1 2 0 0 0 0 4", () -> Villages.accounts(light));
         Due.fails(IllegalArgumentException.class, () -> x.account(11));
         Due.fails(IllegalArgumentException.class, () -> x.account(-1));
         Due.fails(IllegalArgumentException.class, () -> x.account(Integer.MIN_VALUE));

@@ -78,6 +78,10 @@ public final class ChangesTest {
         Due.is(3, () -> x.leave(0));
         Due.is("01=5", () -> Villages.bonds(x));
         Due.is("02|1", () -> Villages.sides(x));
+        VillageFeud y = Villages.of(3, "02=5 12=6");
+        Due.is(2, () -> y.leave(2));
+        Due.is(2, y::household);
+        Due.is("", () -> Villages.bonds(y));
     }
 
     private static void bond() {

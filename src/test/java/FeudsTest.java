@@ -105,6 +105,7 @@ public final class FeudsTest {
         Due.is(0, () -> Villages.of(1, "").bestMove());
         Due.is(0, () -> Villages.of(1, "").ifMoved(0));
         Due.is(0, () -> Villages.of(3, "01=1 12=1 02=1").bestMove());
+        Due.is(1, () -> Villages.of(3, "01=1 02=5").bestMove());
         Due.fails(NONE, () -> new VillageFeud().bestMove());
         Due.fails(INDEX, () -> new VillageFeud().ifMoved(0));
     }
@@ -135,6 +136,7 @@ public final class FeudsTest {
         Due.is(false, () -> y.isCritical(0, 1));
         Due.is(false, () -> Villages.of(3, "01=7").isCritical(0, 1));
         Due.is(true, () -> Villages.of(2, "01=7").isCritical(1, 0));
+        Due.is(true, () -> Villages.of(2, "01=1").isCritical(0, 1));
     }
 
     private static void trialsChangeNothing() {

@@ -14,6 +14,7 @@ public final class LinesTest {
         VillageFeud x = Villages.of(5, "41=3 10=20");
         Due.is(10, x::tell);
         Due.is("01=20 14=3", () -> Villages.bonds(x));
+        Due.is("01=1", () -> Villages.bonds(Villages.of(2, "01=1")));
         Due.is(0, () -> new VillageFeud().tell());
         Due.is(0, () -> Villages.of(9, "").tell());
         VillageFeud heavy = Villages.of(4, "02=99 12=99 03=99 13=99");

@@ -9,6 +9,8 @@ public final class PhasesTest {
         ring();
         ties();
         mergedWithoutOrder();
+        mergedAheadOfAnother();
+        askedFirst();
         least();
         faults();
         Due.end();
@@ -52,6 +54,24 @@ public final class PhasesTest {
         Due.is("0<2<3<14=3", () -> Villages.phase(x, 1));
         Due.is(3, x::least);
         Due.is(1, x::met);
+    }
+
+    /** The groups 2 and 3 are merged, and as one they join ahead of 1; 3 is no group any more. */
+    private static void mergedAheadOfAnother() {
+        VillageFeud x = Villages.of(4, "01=3 02=2 03=2 23=5");
+        isPhase(x, 0, new int[] {7, 4, 3, 2, 8}, new int[] {0, 1, 2, 3}, new int[] {0, 3, 2, 7});
+        isPhase(x, 1, new int[] {3, 3, 1, 2, 2}, new int[] {0, 2, 1}, new int[] {0, 4, 3});
+        isPhase(x, 2, new int[] {7, 2, 1, 0, 14}, new int[] {0, 1}, new int[] {0, 7});
+        Due.is("0<23<1=3", () -> Villages.phase(x, 1));
+    }
+
+    /** Each of these is the first call that asks for phases at all. */
+    private static void askedFirst() {
+        Due.is(5, () -> Villages.ring().phaseOf(1, 0));
+        Due.is(3, () -> Villages.ring().joined(0, 3));
+        Due.is(6, () -> Villages.ring().tieAt(0, 3));
+        Due.is(7, () -> Villages.ring().tellPhase(2));
+        Due.is(5, () -> Villages.ring().part());
     }
 
     private static void isPhase(VillageFeud x, int phase, int[] numbers, int[] joined, int[] ties) {

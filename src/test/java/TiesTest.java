@@ -43,6 +43,7 @@ public final class TiesTest {
                 Due.is(due[household][what], () -> x.householdOf(asked, of));
             }
         }
+        Due.is(1, () -> Villages.of(2, "01=1").householdOf(0, 5));
         Due.fails(ARGUMENT, () -> x.householdOf(0, 6));
         Due.fails(ARGUMENT, () -> x.householdOf(0, -1));
         Due.fails(INDEX, () -> x.householdOf(5, 0));
