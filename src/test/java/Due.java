@@ -55,6 +55,14 @@ final class Due {
                 && !words.contains("out of range: ");
     }
 
+    static int asked() {
+        return asked;
+    }
+
+    static int wrong() {
+        return wrong;
+    }
+
     /** Ends the program, with 1 if an answer was wrong. */
     static void end() {
         System.out.println(asked + " asked, " + wrong + " wrong");
@@ -69,7 +77,7 @@ final class Due {
         StringBuilder where = new StringBuilder();
         for (StackTraceElement frame : stack) {
             String file = String.valueOf(frame.getFileName());
-            if (file.endsWith("Test.java")) {
+            if (file.endsWith("Test.java") || file.startsWith("SentencesOf")) {
                 where.append(file).append(':').append(frame.getLineNumber()).append(' ');
             }
         }

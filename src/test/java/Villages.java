@@ -66,4 +66,58 @@ final class Villages {
         }
         return accounts.toString();
     }
+
+    /** All that can be asked without changing anything, but the reasons. */
+    static String state(VillageFeud village) {
+        StringBuilder state = new StringBuilder(accounts(village)).append(" | ");
+        int size = village.account(0);
+        for (int one = 0; one < size; one++) {
+            state.append(village.householdOf(one, 0)).append(':');
+            for (int other = 0; other < size; other++) {
+                state.append(village.weight(one, other)).append(' ');
+            }
+        }
+        return state + "| " + lineNow(village) + " | " + village.faultPosition();
+    }
+
+    /** The reason and its cause, as " 8:1 2:7". */
+    static String reasons(VillageFeud village) {
+        StringBuilder reasons = new StringBuilder();
+        for (int depth = 0; depth <= 1; depth++) {
+            reasons.append(' ').append(reason(village, depth));
+        }
+        return reasons.toString();
+    }
+
+    private static String reason(VillageFeud village, int depth) {
+        try {
+            return village.reason(depth, false) + ":" + village.reason(depth, true);
+        } catch (java.util.NoSuchElementException none) {
+            return "none";
+        }
+    }
+
+    /** The line, whose length is not known. */
+    static String lineNow(VillageFeud village) {
+        StringBuilder line = new StringBuilder();
+        for (int index = 0; index < 1000; index++) {
+            try {
+                line.append(village.character(index));
+            } catch (IndexOutOfBoundsException end) {
+                return line.toString();
+            }
+        }
+        return "endless";
+    }
+
+    /** All 36 bonds of 9 households, each with the weight 1. */
+    static VillageFeud full() {
+        VillageFeud village = of(9, "");
+        for (int one = 0; one < 9; one++) {
+            for (int other = one + 1; other < 9; other++) {
+                village.bond(one, other, 1);
+            }
+        }
+        return village;
+    }
 }
